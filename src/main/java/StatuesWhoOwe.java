@@ -488,6 +488,7 @@ public final class StatuesWhoOwe {
         private final int[] y = new int[MOST_PLINTHS];
         private final int[] shade = new int[MOST_PLINTHS];
         private final int[] view = new int[MOST_PLINTHS];
+        private final int[] close = new int[MOST_PLINTHS];
         private final int[] fame = new int[MOST_HEADS];
         private final int[] chin = new int[MOST_HEADS];
         private final int[] seenNight = new int[MOST_SEEN];
@@ -508,8 +509,19 @@ public final class StatuesWhoOwe {
             y[plinths] = newY;
             shade[plinths] = newShade;
             view[plinths] = newView;
+            countClose(plinths);
             plinths++;
             return plinths - 1;
+        }
+
+        private void countClose(int added) {
+            close[added] = 0;
+            for (int other = 0; other < added; other++) {
+                if (milesApart(added, other) <= 10) {
+                    close[added]++;
+                    close[other]++;
+                }
+            }
         }
 
         int addHead(int newFame, int newChin) {
@@ -608,6 +620,11 @@ public final class StatuesWhoOwe {
             return view[plinth];
         }
 
+        /** How many other plinths are close to one. */
+        int closeTo(int plinth) {
+            return close[plinth];
+        }
+
         int fameOf(int head) {
             return fame[head];
         }
@@ -621,21 +638,12 @@ public final class StatuesWhoOwe {
             return Math.abs(x[one] - x[other]) + Math.abs(y[one] - y[other]);
         }
 
-        int closeTo(int plinth) {
-            int close = 0;
-            for (int other = 0; other < plinths; other++) {
-                if (other != plinth && milesApart(plinth, other) <= 10) {
-                    close++;
-                }
-            }
-            return close;
-        }
-
         void become(Told other) {
             System.arraycopy(other.x, 0, x, 0, MOST_PLINTHS);
             System.arraycopy(other.y, 0, y, 0, MOST_PLINTHS);
             System.arraycopy(other.shade, 0, shade, 0, MOST_PLINTHS);
             System.arraycopy(other.view, 0, view, 0, MOST_PLINTHS);
+            System.arraycopy(other.close, 0, close, 0, MOST_PLINTHS);
             System.arraycopy(other.fame, 0, fame, 0, MOST_HEADS);
             System.arraycopy(other.chin, 0, chin, 0, MOST_HEADS);
             System.arraycopy(other.seenNight, 0, seenNight, 0, MOST_SEEN);
@@ -895,6 +903,14 @@ public final class StatuesWhoOwe {
 
     /** Reads the tape token by token; the first fault ends it. */
     private static final class Reader {
+        // The levels of the grammar, each made of parts of the next.
+        private static final int EITHER = 0;
+        private static final int BOTH = 1;
+        private static final int ASK = 2;
+        private static final int SUM = 3;
+        private static final int PRODUCT = 4;
+        private static final int ONE = 5;
+
         private final Tape tape;
         private Text into;
         private int law;
@@ -944,24 +960,28 @@ public final class StatuesWhoOwe {
                 return fail(6);
             }
             advance();
-            return switch (kind) {
-                case PUT -> deed(kind, MOST_HEADS - 1, ON);
-                case OFF -> deed(kind, MOST_PLINTHS - 1, STOP);
-                case CHANGE -> deed(kind, MOST_PLINTHS - 1, WITH);
-                case PASS -> deed(kind, MOST_DAYS_AT_ONCE, STOP);
-                default -> law(kind);
-            };
+            if (kind > FALLS) {
+                return deed(kind);
+            }
+            law = kind;
+            int from = into.codeLength();
+            if (!joined(kind == FALLS ? EITHER : SUM, 0)) {
+                return false;
+            }
+            into.addClause(kind, from, into.codeLength());
+            return expect(STOP);
         }
 
         /** A deed has one number, or a word and a plinth behind it. */
-        private boolean deed(int kind, int most, int word) {
+        private boolean deed(int kind) {
+            int most = kind == PASS ? MOST_DAYS_AT_ONCE : kind == PUT ? MOST_HEADS - 1 : MOST_PLINTHS - 1;
             int first = number;
             if (!numberUpTo(most)) {
                 return false;
             }
             int second = NONE;
-            if (word != STOP) {
-                if (!expect(word)) {
+            if (kind == PUT || kind == CHANGE) {
+                if (!expect(kind == PUT ? ON : WITH)) {
                     return false;
                 }
                 second = number;
@@ -984,35 +1004,33 @@ public final class StatuesWhoOwe {
             return true;
         }
 
-        private boolean law(int kind) {
-            law = kind;
-            int from = into.codeLength();
-            boolean fine = kind == FALLS ? either() : sum(0);
-            if (!fine) {
-                return false;
-            }
-            into.addClause(kind, from, into.codeLength());
-            return expect(STOP);
-        }
-
-        private boolean either() {
-            boolean fine = both();
-            for (int i = 0; fine && token == OR && i < MOST_BYTES; i++) {
+        /** Parts of the level below with the signs of this level between them, from the left. */
+        private boolean joined(int level, int open) {
+            boolean fine = part(level + 1, open);
+            for (int i = 0; fine && joins(level) && i < MOST_BYTES; i++) {
+                int sign = token;
                 advance();
-                fine = both();
-                emit(OR);
+                fine = part(level + 1, open);
+                emit(sign);
             }
             return fine;
         }
 
-        private boolean both() {
-            boolean fine = ask(0);
-            for (int i = 0; fine && token == AND && i < MOST_BYTES; i++) {
-                advance();
-                fine = ask(0);
-                emit(AND);
+        private boolean part(int level, int open) {
+            if (level == ASK) {
+                return ask(open);
             }
-            return fine;
+            return level == ONE ? one(open) : joined(level, open);
+        }
+
+        private boolean joins(int level) {
+            return switch (level) {
+                case EITHER -> token == OR;
+                case BOTH -> token == AND;
+                case SUM -> token == PLUS || token == MINUS;
+                case PRODUCT -> token == TIMES || token == OVER;
+                default -> false;
+            };
         }
 
         private boolean ask(int open) {
@@ -1025,7 +1043,7 @@ public final class StatuesWhoOwe {
                 emit(NOT);
                 return fine;
             }
-            if (!sum(open)) {
+            if (!joined(SUM, open)) {
                 return false;
             }
             int sign = token;
@@ -1033,35 +1051,13 @@ public final class StatuesWhoOwe {
                 return fail(1);
             }
             advance();
-            boolean fine = sum(open);
+            boolean fine = joined(SUM, open);
             emit(sign);
             return fine;
         }
 
         private static boolean compares(int sign) {
             return sign >= LESS && sign <= UNLIKE || sign == AT_MOST || sign == AT_LEAST;
-        }
-
-        private boolean sum(int open) {
-            boolean fine = product(open);
-            for (int i = 0; fine && (token == PLUS || token == MINUS) && i < MOST_BYTES; i++) {
-                int sign = token;
-                advance();
-                fine = product(open);
-                emit(sign);
-            }
-            return fine;
-        }
-
-        private boolean product(int open) {
-            boolean fine = one(open);
-            for (int i = 0; fine && (token == TIMES || token == OVER) && i < MOST_BYTES; i++) {
-                int sign = token;
-                advance();
-                fine = one(open);
-                emit(sign);
-            }
-            return fine;
         }
 
         private boolean one(int open) {
@@ -1081,7 +1077,7 @@ public final class StatuesWhoOwe {
             boolean opens = token == OPENS;
             advance();
             if (opens) {
-                return sum(open + 1) && expect(CLOSES);
+                return joined(SUM, open + 1) && expect(CLOSES);
             }
             boolean fine = one(open + 1);
             emit(NEGATE);
@@ -1140,25 +1136,21 @@ public final class StatuesWhoOwe {
             }
             token = NO_TOKEN;
             int kind = 0;
+            int alike = 0;
             int from = 0;
             for (int i = 0; i < WORDS.length() && token == NO_TOKEN; i++) {
-                if (WORDS.charAt(i) == ' ') {
-                    if (i - from == next - place && isWordFrom(from)) {
+                char sign = WORDS.charAt(i);
+                if (sign != ' ') {
+                    alike += sign == tape.at(place + i - from) ? 1 : 0;
+                } else {
+                    if (alike == i - from && alike == next - place) {
                         token = kind;
                     }
                     kind++;
+                    alike = 0;
                     from = i + 1;
                 }
             }
-        }
-
-        private boolean isWordFrom(int from) {
-            for (int i = 0; i < next - place; i++) {
-                if (WORDS.charAt(from + i) != tape.at(place + i)) {
-                    return false;
-                }
-            }
-            return true;
         }
 
         private void digits() {

@@ -268,6 +268,8 @@ public final class PromisesTest {
         due("no head", x.pay(-1, 1), NONE);
         due("odd", x.pay(0, LOW), NONE);
         due("steps", x.about(6), 2);
+        due("one", x.pay(0, 1), 9);
+        x.undo();
         due("all of the purse", x.pay(0, 6), 4);
         due("purse", x.about(3), 0);
         due("steps", x.about(6), 3);
@@ -425,6 +427,19 @@ public final class PromisesTest {
         faulty("due 1", 1, 5);
         faulty("dues 1;", 1, 0);
         faulty("Due 1;", 1, 0);
+        faulty("duea 1;", 1, 0);
+        faulty("duez 1;", 1, 0);
+        faulty("dueA 1;", 1, 0);
+        faulty("dueZ 1;", 1, 0);
+        faulty("due@1;", 1, 3);
+        faulty("due[1;", 1, 3);
+        faulty("due`1;", 1, 3);
+        faulty("due{1;", 1, 3);
+        faulty("due 1:", 1, 5);
+        faulty("due 1!;", 1, 5);
+        faulty("falls 1 => 2;", 1, 9);
+        faulty("falls 1 <> 2;", 1, 9);
+        faulty("falls 1 <=> 2;", 1, 10);
         faulty("due;1", 1, 3);
         faulty(" ; ", 1, 1);
         faulty("due 1 2;", 1, 6);
@@ -881,6 +896,44 @@ public final class PromisesTest {
         x.forget();
         x.seen(1, 0, 0);
         due("a head that doesn't stand", x.fewest(), NONE);
+        everyOrder();
+    }
+
+    /** Four chins and none can be told apart, so each order is one; a round of k needs k - 1 changes. */
+    private static void everyOrder() {
+        int orders = 0;
+        for (int code = 0; code < 3125; code++) {
+            int[] order = {code % 5, code / 5 % 5, code / 25 % 5, code / 125 % 5, code / 625};
+            int bits = 0;
+            for (int i : order) {
+                bits |= 1 << i;
+            }
+            if (bits != 31) {
+                continue;
+            }
+            orders++;
+            int rounds = 0;
+            boolean[] met = new boolean[5];
+            for (int i = 0; i < 5; i++) {
+                rounds += met[i] ? 0 : 1;
+                for (int j = i; !met[j]; j = order[j]) {
+                    met[j] = true;
+                }
+            }
+            StatuesWhoOwe y = square(5, 4);
+            for (int i = 0; i < 4; i++) {
+                y.put(i, i);
+            }
+            for (int i = 0; i < 5; i++) {
+                y.seen(5, i, order[i] == 4 ? NONE : order[i]);
+            }
+            due("the order " + code, y.fewest(), 5 - rounds);
+            due("who", y.who(5, 3), order[3] == 4 ? 4096 : 1 << order[3]);
+            if (rounds == 5) {
+                due("who", y.who(2, 1), 2);
+            }
+        }
+        due("orders", orders, 120);
     }
 
     private static void who() {
@@ -956,6 +1009,7 @@ public final class PromisesTest {
     private static void tour() {
         promise = 26;
         StatuesWhoOwe x = square(4, 0);
+        due("no miles to go", x.tour(1, 0, 0), 8);
         due("one alone", x.tour(1, 9, 0), 8);
         due("no miles", x.tour(1, 9, 1), 0);
         due("the first", x.tour(1, 9, 2), 1);
@@ -1050,6 +1104,38 @@ public final class PromisesTest {
         int done = x.revolution(9999, 99);
         due("some done", done > 0 && done < 99, true);
         due("one step", x.about(6), 2);
+        revolutionByHand();
+    }
+
+    /** The draws worked out here are all there is: what each turn does is looked at one by one. */
+    private static void revolutionByHand() {
+        for (int seed = 0; seed < 200; seed++) {
+            StatuesWhoOwe x = square(3, 4);
+            StatuesWhoOwe y = square(3, 4);
+            x.put(3, 1);
+            y.put(3, 1);
+            int[] draws = {seed * 13 + 5};
+            int done = 0;
+            for (int turn = 0; turn < 9; turn++) {
+                int kind = draw(draws, 3);
+                int first = draw(draws, kind == 0 ? 4 : 3);
+                int second = draw(draws, 3);
+                boolean did = kind == 0 ? y.put(first, second) : kind == 1 ? y.change(first, second) : y.off(first) >= 0;
+                done += did ? 1 : 0;
+            }
+            due("revolution(" + seed + ", 9)", x.revolution(seed, 9), done);
+            for (int plinth = 0; plinth < 3; plinth++) {
+                due("of(" + plinth + ", 0)", x.of(plinth, 0), y.of(plinth, 0));
+            }
+            due("undo", x.undo(), 1);
+            due("as ahead of it", x.of(1, 0), 3);
+        }
+    }
+
+    private static int draw(int[] draws, int by) {
+        int drawn = draws[0] % by;
+        draws[0] = (draws[0] * 193 + 71) % 30059;
+        return drawn;
     }
 
     private static void image() {
@@ -1108,6 +1194,26 @@ public final class PromisesTest {
         due("it rules", x.of(0, 2), 6);
         x.by(0);
         due("the first is whole", x.of(0, 2), 4);
+        backToWhatWasTold();
+    }
+
+    private static void backToWhatWasTold() {
+        StatuesWhoOwe x = square(2, 2);
+        x.put(0, 0);
+        x.seen(2, 1, 0);
+        rule(x, "price close;");
+        x.image();
+        x.plinth(9, 1, 5, 5);
+        due("close to both", x.of(1, 5), 2);
+        x.forget();
+        x.seen(7, 0, NONE);
+        x.back();
+        due("close as it was", x.of(1, 5), 1);
+        due("seen in the second night", x.who(2, 1), 1);
+        due("not in the seventh", x.who(1, 1), 4097);
+        x.plinth(90, 90, 1, 1);
+        due("close anew", x.of(2, 5), 0);
+        due("about(22)", x.about(22), 11);
     }
 
     private static void about() {

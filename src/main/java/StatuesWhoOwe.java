@@ -1004,7 +1004,7 @@ public final class StatuesWhoOwe {
             return true;
         }
 
-        /** Parts of the level below with the signs of this level between them, from the left. */
+        /** Parts of the next level with the signs of this one between them, from the left. */
         private boolean joined(int level, int open) {
             boolean fine = part(level + 1, open);
             for (int i = 0; fine && joins(level) && i < MOST_BYTES; i++) {

@@ -12,6 +12,8 @@ public final class NightBoundsTest {
         bestAsItIs();
         bestByOneShilling();
         bestOfLikeOnes();
+        bestOfLikeOnesAtTheEnds();
+        bestBehindBest();
         seenWithin();
         seenAtMost();
         seenInAnyOrder();
@@ -22,6 +24,7 @@ public final class NightBoundsTest {
         anyNumberOfTimes();
         changesInEachNight();
         changesOfEmptyPlinths();
+        allPlinthsFull();
         whoOfOthers();
         whoNow();
         whoBits();
@@ -135,6 +138,46 @@ public final class NightBoundsTest {
         best("the lower of like ones", ruled(2, 3, "due 0; pays (fame + 1) / 2 * 5 + 1;"), 1, 2, 12);
         best("the lowest for 0, not for 1", ruled(2, 2, "due 0; pays 5; price 0;"), 0, 1, 10);
         best("none for 0 at the same sum", ruled(2, 2, "due 0; pays 5 + plinth - plinth; price 5 - plinth * 5;"), NONE, 0, 10);
+    }
+
+    private static void bestOfLikeOnesAtTheEnds() {
+        best("the last plinth, any head", ruled(8, 12, "due 0; pays plinth / 7 * 5; price shade * 0;"), NONE, NONE, NONE, NONE,
+                NONE, NONE, NONE, 0, 5);
+        best("the last plinth, none", ruled(8, 12, "due 0; pays plinth / 7 * 5; price plinth / 7 * 5;"), NONE, NONE, NONE,
+                NONE, NONE, NONE, NONE, NONE, 5);
+        best("the last plinth, head 0", ruled(8, 1, "due 0; pays plinth / 7 * 5; price shade / 7 * 4;"), NONE, NONE, NONE,
+                NONE, NONE, NONE, NONE, 0, 5);
+        // On one plinth head 11 is worth 5 more than 10, on the next 5 more than none: the lower head goes first.
+        for (int plinth = 0; plinth < 7; plinth++) {
+            StatuesWhoOwe x = Checks.square(8, 12);
+            x.carve(plinth, 10);
+            x.carve(plinth + 1, 11);
+            Checks.rule(x, "due 9; pays (head / 10) * ((name + 1) / 11 * (1 - name / 11) * (100 + (head - 10) * 5)"
+                    + " + name / 11 * (head - 10) * 14);");
+            for (int i = 0; i < 8; i++) {
+                due("best(" + i + ")", x.best(i), i == plinth ? 10 : i == plinth + 1 ? 11 : NONE);
+            }
+            due("best(NONE)", x.best(NONE), 91 + 5);
+        }
+    }
+
+    private static void bestBehindBest() {
+        StatuesWhoOwe x = Checks.square(8, 12);
+        String[] laws = {"due 0; pays 999;", "due 1; pays head / 11 * 5;", "due 0; pays (12 - plinth) * head;",
+            "due 999; price 1;"};
+        int[] all = {7992, 4, 552, 8};
+        int[] first = {0, NONE, 11, NONE};
+        int[] last = {7, 11, 4, NONE};
+        for (String text : laws) {
+            Checks.read(x, text);
+        }
+        for (int i = 0; i < 12; i++) {
+            int text = i * 7 % 12 / 3;
+            due("by", x.by(text), true);
+            due("all", x.best(NONE), all[text]);
+            due("first", x.best(0), first[text]);
+            due("last", x.best(7), last[text]);
+        }
     }
 
     private static void seenWithin() {
@@ -361,6 +404,31 @@ public final class NightBoundsTest {
         due("it must be at 0", x.fewest(), 1);
         due("there", x.who(1, 0), 1);
         due("not there", x.who(1, 2), 4096);
+    }
+
+    private static void allPlinthsFull() {
+        StatuesWhoOwe x = Checks.square(5, 12);
+        for (int i = 0; i < 5; i++) {
+            x.put(7 + i, i);
+        }
+        due("nothing seen", x.fewest(), 0);
+        for (int i = 0; i < 5; i++) {
+            due("who(0, " + i + ")", x.who(0, i), 1 << 7 + i);
+            due("who(8, " + i + ")", x.who(8, i), 1 << 7 + i);
+        }
+        // Chins 3, 0, 1, 2, 3: head 7 or 11 is at 1.
+        x.seen(4, 1, 3);
+        due("one change", x.fewest(), 1);
+        due("who(0, 1)", x.who(0, 1), 1 << 8);
+        due("who(4, 1)", x.who(4, 1), 1 << 7 | 1 << 11);
+        x.forget();
+        due("nothing seen behind it", x.fewest(), 0);
+        x.seen(1, 0, NONE);
+        due("none can be without", x.fewest(), NONE);
+        due("none can be without", x.who(8, 0), NONE);
+        x.forget();
+        due("nothing seen behind it", x.fewest(), 0);
+        due("nothing seen behind it", x.who(8, 0), 1 << 7);
     }
 
     private static void whoOfOthers() {

@@ -182,6 +182,9 @@ public final class SquareBoundsTest {
         for (int plinth = 0; plinth < 8; plinth++) {
             due("of(" + plinth + ", 1)", x.of(plinth, 1), NONE);
         }
+        due("a name", x.carve(0, 5), true);
+        due("the name's head is on none still", x.headOf(5, 0), NONE);
+        due("it can be put", x.put(5, 1), true);
         Checks.says("DEBT of a HEAD, PURSE: at first 0.");
         for (int head = 0; head < 12; head++) {
             due("headOf(" + head + ", 1)", x.headOf(head, 1), 0);
@@ -402,6 +405,31 @@ public final class SquareBoundsTest {
         due("another under 0", x.stood(11, 0), 99);
         due("under none as ahead", x.stood(0, NONE), 1);
         due("one that doesn't stand", x.stood(5, NONE), 0);
+        everyHeadUnderEveryName(0);
+        everyHeadUnderEveryName(4);
+    }
+
+    /** Eight heads from this one on stand under none for a day, under 0 for two, .. under 11 for thirteen. */
+    private static void everyHeadUnderEveryName(int from) {
+        StatuesWhoOwe x = square(8, 12);
+        for (int i = 0; i < 8; i++) {
+            x.put(from + i, i);
+        }
+        for (int name = NONE; name < 12; name++) {
+            for (int i = 0; i < 8; i++) {
+                x.carve(i, name);
+            }
+            x.pass(name + 2);
+        }
+        for (int head = 0; head < 12; head++) {
+            boolean stands = head >= from && head < from + 8;
+            for (int name = NONE; name < 12; name++) {
+                due("stood(" + head + ", " + name + ")", x.stood(head, name), stands ? name + 2 : 0);
+            }
+            due("debt of " + head, x.headOf(head, 1), stands ? 91 : 0);
+        }
+        due("day", x.about(2), 91);
+        due("purse", x.about(3), 0);
     }
 
     private static void paysThenDue() {
@@ -456,11 +484,13 @@ public final class SquareBoundsTest {
         StatuesWhoOwe y = square(8, 8);
         for (int i = 0; i < 8; i++) {
             y.put(i, i);
+            y.carve(i, i);
         }
         Checks.rule(y, "falls 0 = 0;");
         y.pass(1);
         for (int i = 0; i < 8; i++) {
             due("all fall", y.of(i, 0), NONE);
+            due("the names stay", y.of(i, 1), i);
         }
         due("each owes a day", y.about(9), 8);
     }

@@ -11,6 +11,7 @@ public final class TextBoundsTest {
         end();
         fourTexts();
         emptyAndFaultyTapes();
+        nothingStaysOfFaulty();
         textsOf300Bytes();
         everyByte();
         numbers();
@@ -171,6 +172,26 @@ public final class TextBoundsTest {
         due("texts", x.about(4), 2);
         due("the next one", Checks.read(x, "due 1;"), 2);
         due("the tape is empty", x.about(8), 0);
+    }
+
+    private static void nothingStaysOfFaulty() {
+        StatuesWhoOwe x = Checks.square(1, 1);
+        x.put(0, 0);
+        for (int i = 0; i < 3; i++) {
+            due("a fault", Checks.read(x, "due 1" + "+1".repeat(147) + "?"), NONE);
+        }
+        due("a fault", Checks.read(x, "pays 8; due 7;" + "pass 9;".repeat(22) + "pass"), NONE);
+        due("a fine one", Checks.read(x, "pass 2; birds 3;"), 0);
+        x.by(0);
+        due("due", x.of(0, 2), 1);
+        due("pays", x.of(0, 3), 0);
+        due("birds", x.of(0, 4), 3);
+        due("played", x.played(0), NONE);
+        due("its own days alone", x.about(2), 2);
+        x.back();
+        due("in its place", Checks.read(x, "pass 4; off 0; pass 1;"), 0);
+        due("its own clauses alone", x.played(0), 1);
+        due("its own days alone", x.about(2), 4);
     }
 
     private static void textsOf300Bytes() {
@@ -702,6 +723,18 @@ public final class TextBoundsTest {
         told("100-10+5", 95);
         told("7/8*8", 0);
         told("1000*1000/-(1000*1000)+2", 1);
+        Checks.says("SUM: PRODUCT {+ or - PRODUCT}. PRODUCT: ONE {* or / ONE}. ONE: NUMBER, NAME, ( SUM ), - ONE.");
+        told("10+2*-3", 4);
+        told("10--3*2", 16);
+        told("-(2-5)*2", 6);
+        told("-2*-3", 6);
+        told("2+3*4-10/5", 12);
+        // As much as can wait for its other side at once.
+        String deep = "1+1*(".repeat(8) + "1+1*1" + ")".repeat(8);
+        told(deep, 10);
+        asked("0=1 or 1=1 and 1*9<" + deep, true);
+        asked("0=1 or 1=1 and 1*10<" + deep, false);
+        asked("0=1 or 1=1 and 1+1*9=" + deep, true);
     }
 
     private static int priceOfClose(int[]... places) {

@@ -510,5 +510,15 @@ public final class TourBoundsTest {
         x.head(2, 2);
         y.head(2, 2);
         due("all is as it was", Checks.everything(x).equals(Checks.everything(y)), true);
+        StatuesWhoOwe z = Checks.square(2, 0);
+        Checks.rule(z, "price close;");
+        z.image();
+        z.plinth(5, 0, 0, 0);
+        due("close to two", z.of(0, 5), 2);
+        z.back();
+        due("close to one again", z.of(0, 5), 1);
+        z.plinth(50, 50, 0, 0);
+        due("close to one still", z.of(0, 5), 1);
+        due("close to none", z.of(2, 5), 0);
     }
 }

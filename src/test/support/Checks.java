@@ -143,6 +143,11 @@ final class Checks {
         all.add(x.fault(1));
         all.add(x.best(NONE));
         all.add(x.fewest());
+        for (int night = 0; night <= 8; night++) {
+            for (int plinth = 0; plinth < x.about(0); plinth++) {
+                all.add(x.who(night, plinth));
+            }
+        }
         look(x, all);
         for (int head = 0; head < x.about(1); head++) {
             for (int name = NONE; name < 12; name++) {

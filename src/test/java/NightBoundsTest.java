@@ -13,6 +13,7 @@ public final class NightBoundsTest {
         bestByOneShilling();
         bestOfLikeOnes();
         bestOfLikeOnesAtTheEnds();
+        theFirstPlinthDecides();
         bestBehindBest();
         seenWithin();
         seenAtMost();
@@ -159,6 +160,27 @@ public final class NightBoundsTest {
             }
             due("best(NONE)", x.best(NONE), 91 + 5);
         }
+    }
+
+    /**
+     * Fame and shade with view say by bits who is worth 50 where: 0 and 1 at 0, 11 at 1, 0 and 10 at 2, 1 and 11
+     * at 3; 1 is worth 5 more at 0, and 11 is worth 5 at 1. So 0, 11, 10, 1 and 1, none, 0, 11 are like ones, and
+     * the lowest for plinth 0 decides, however high the others are.
+     */
+    private static void theFirstPlinthDecides() {
+        StatuesWhoOwe x = new StatuesWhoOwe();
+        int[] bits = {3, 8, 5, 10};
+        for (int i = 0; i < 4; i++) {
+            x.plinth(i, i, Math.min(bits[i], 9), bits[i] - Math.min(bits[i], 9));
+        }
+        int[] fames = {1, 2, 0, 0, 0, 0, 0, 0, 0, 0, 4, 8};
+        for (int fame : fames) {
+            x.head(fame, 0);
+        }
+        x.carve(0, 1);
+        x.carve(1, 11);
+        Checks.rule(x, "due 0; pays ((shade+view)/fame - (shade+view)/fame/2*2) * 50 + right * (5 - plinth*50);");
+        best("the first plinth decides", x, 0, 11, 10, 1, 50 + 5 + 50 + 50);
     }
 
     private static void bestBehindBest() {

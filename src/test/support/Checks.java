@@ -30,7 +30,7 @@ final class Checks {
         }
     }
 
-    private static String document() {
+    static String document() {
         if (document == null) {
             try {
                 document = Files.readString(Path.of("../shared/DOC.md"));
@@ -57,7 +57,8 @@ final class Checks {
     }
 
     static void end() {
-        System.out.println(wrong == 0 ? sentences + " sentences hold" : wrong + " answers are not as due");
+        String fine = sentences == 0 ? "all answers are as due" : sentences + " sentences hold";
+        System.out.println(wrong == 0 ? fine : wrong + " answers are not as due");
         if (wrong != 0) {
             System.exit(1);
         }
